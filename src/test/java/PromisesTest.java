@@ -72,6 +72,7 @@ public final class PromisesTest {
         due("new truly up", x.truly(17, false), 17);
         due("new truly down", x.truly(17, true), 17);
         due("new fits: the period is 10", x.fits(), 910);
+        due("the first fit", x.fit(0), 0);
         due("new tape is empty", x.end(1), false);
         due("new end(0)", x.end(0), true);
     }
@@ -171,6 +172,25 @@ public final class PromisesTest {
         thrown("a wrong 9th", ILLEGAL, () -> g.gauge(0, false, 0, false, 1201));
         thrown("a 9th", FULL, () -> g.gauge(0, false, 0, false, 0));
         due("8 stay", g.count(0), 8);
+
+        RainbowPlate all = new RainbowPlate();
+        all.screw(3, 0, 0, 0);
+        int at = 0;
+        for (int wear = 0; wear <= 9; wear++) {
+            for (int lag = 0; lag <= 9; lag++) {
+                for (int phase = 0; phase < (wear == 0 ? 1 : 3); phase++) {
+                    due("fit " + at + " of all", all.fit(at), 1000 * wear + 100 * lag + phase);
+                    at++;
+                }
+            }
+        }
+        due("no more", all.fit(at), -1);
+        RainbowPlate lags = new RainbowPlate();
+        lags.gauge(100, true, 110, false, 5);
+        due("a lag of 4 to 6 brings 100 nearer to 110", lags.fit(0), 400);
+        RainbowPlate others = new RainbowPlate();
+        others.gauge(110, false, 100, true, 5);
+        due("as the second one too", others.fit(0), 400);
     }
 
     // Promises 9 to 13
@@ -274,26 +294,11 @@ public final class PromisesTest {
         RainbowPlate q = exact();
         q.known(200, false, 2160, false);
         due("not of the spark", q.slipped(), 99);
-        RainbowPlate both = exact();
-        // the top of 1000 + 50 and C below 0 cannot be here: B 50 C 0 alone; a spark's wave 2 below and above
-        both.error(2);
-        both.known(200, false, 2000, false);
-        both.known(300, false, 2500, false);
-        both.known(400, false, 3000, false);
-        due("still 0", both.slipped(), 0);
-        RainbowPlate two = new RainbowPlate();
-        two.error(0);
-        // P and 1 of the spark and P of the other have one wave: 1000 B P + C P P must stay below a step
-        two.known(10, false, 5000, false);
-        two.known(11, false, 5000, true);
-        two.known(12, false, 5009, true);
-        int got = two.slipped();
-        due("the nearest is not beyond its mirror", got <= 30 && got >= -30 || got == 99, true);
         RainbowPlate mirror = new RainbowPlate();
         mirror.error(0);
         mirror.known(500, false, 5000, false);
         mirror.known(500, false, 5009, true);
-        // any slip of s ticks up (A and B free) makes 9 more: 1 tick with B 90, C 0 .. ; down it would need a fall
+        // 9 more in one tick: B 90, C 0; no law falls so much
         due("up, where a law rises", mirror.slipped(), 1);
         RainbowPlate fall = new RainbowPlate();
         fall.error(0);
@@ -302,7 +307,7 @@ public final class PromisesTest {
         due("down, where it falls", fall.slipped(), -1);
         RainbowPlate tie = new RainbowPlate();
         tie.error(0);
-        // 1 tick either way changes the wave by 0, if B is 1 and C is -1 .., but a change of 1 can be had by both:
+        // 1 less: a law that rises slips down, one that falls slips up
         tie.known(990, false, 5000, false);
         tie.known(990, false, 4999, true);
         due("of two the lower one", tie.slipped(), -1);
@@ -312,6 +317,27 @@ public final class PromisesTest {
         tied.known(990, false, 5001, true);
         // B 1, C -9 falls by (1000 - 17820) by 10000 a tick, and so rises when it slips down
         due("the lower one, by a law that falls there", tied.slipped(), -1);
+        RainbowPlate steep = new RainbowPlate();
+        steep.error(0);
+        steep.known(0, false, 1000, false);
+        steep.known(500, false, 5500, false);
+        steep.known(999, false, 9991, false);
+        steep.known(100, false, 1927, true);
+        due("B 90, C 0 alone", steep.slipped(), 3);
+        RainbowPlate flat = new RainbowPlate();
+        flat.error(0);
+        flat.known(0, false, 1000, false);
+        flat.known(500, false, 1275, false);
+        flat.known(999, false, 1998, false);
+        flat.known(700, false, 1513, true);
+        // (702000 + 9 times 702 times 702) by 10000 is 513, at 701 it is 512
+        due("B 1, C 9 alone", flat.slipped(), 2);
+        RainbowPlate turned = exact();
+        turned.screw(10, 0, 0, 7);
+        turned.known(200, true, 2035, true);
+        due("a spark turned down", turned.slipped(), 0);
+        turned.screw(10, 0, 0, 9);
+        due("with two ticks more lag", turned.slipped(), -2);
     }
 
     // Promises 15, 16, 21
@@ -511,6 +537,8 @@ public final class PromisesTest {
         due("left as bits of all readings", x.left(1, 0, 50), 0);
         x.reading(1, 601, false, 1, 1);
         due("reading 4 is left", x.left(1, 13, 0), 16);
+        due("missed on one plate", x.missed(0, 13, 0), 0);
+        due("and on the other", x.missed(1, 13, 0), 3);
         thrown("explains plate", INDEX, () -> x.explains(2, 0, 51));
         thrown("explains plate -1", INDEX, () -> x.explains(-1, 0, 0));
         thrown("explains speed", ILLEGAL, () -> x.explains(0, 0, 51));
@@ -637,6 +665,8 @@ public final class PromisesTest {
         dueAmounts("1 seen 1", oneLine(1, 1), 1, 9);
         dueAmounts("1 seen 2", oneLine(1, 2), 5, 9);
         dueAmounts("1 seen 3", oneLine(1, 3), -1, -1);
+        // 4: 0 1 2 3 4 4 5 6 7
+        dueAmounts("4 seen 8", oneLine(4, 8), 9, 9);
 
         RainbowPlate x = oneLine(5, 1);
         x.line(0, 3000, 5);
@@ -709,9 +739,17 @@ public final class PromisesTest {
         due("by bits of none", x.wide(0, -4, true), 0);
         x.line(1, 2000, 1);
         due("shared by two elements", x.wide(0, 3, true), 1 + 2 + 4);
+        x.element(false);
+        x.line(3, 2000, 1);
+        due("with a third between them", x.wide(0, 9, true), 1);
+        x.element(true);
+        x.line(4, 2500, 1);
+        due("two elements of air", x.wide(0, 0, true), 2 + 4);
+        due("two lines of air", x.wide(0, 0, false), 1 + 8);
         x.known(0, false, 2000, false);
         due("without a span no line lies in it", x.wide(0, 3, false), 1 + 2 + 8);
         due("nor two", x.wide(0, 3, true), 0);
+        due("nor of air", x.wide(0, 0, true), 0);
         thrown("wide plate", INDEX, () -> x.wide(2, 0, false));
         thrown("wide plate -1", INDEX, () -> x.wide(-1, 0, true));
     }
@@ -757,14 +795,26 @@ public final class PromisesTest {
         skipped.line(0, 5000, 1);
         due("what a line lies in is not left", skipped.rows(0, 1, 0, true), 2500);
         due("but by the empty set", skipped.rows(0, 0, 0, false), 2);
-        RainbowPlate low = new RainbowPlate();
-        low.error(0);
-        low.plate(1, 1, 1000, 9999, 0);
-        low.known(999, false, 1000, false);
-        low.known(0, false, 1000, false);
-        low.reading(0, 10, false, 1, 1);
-        low.reading(0, 20, false, 1, 1);
-        due("middles of spans of several laws", low.rows(0, 0, 999, false) <= 1, true);
+        RainbowPlate near = exact();
+        near.plate(1, 1, 1000, 9999, 0);
+        near.reading(0, 999, false, 1, 1);
+        near.reading(0, 998, false, 1, 1);
+        // 10000000 by 5995 is 1668, by 5990 it is 1669
+        due("a step of 1", near.rows(0, 0, 0, true), 1);
+        for (int low = 0; low < 2; low++) {
+            // one law: the wave is 0 or 1, and 9 for each tick
+            RainbowPlate y = new RainbowPlate();
+            y.error(0);
+            y.known(112, false, 1008 + low, false);
+            y.known(500, false, 4500 + low, false);
+            y.known(900, false, 8100 + low, false);
+            y.plate(1, 1, 1000, 9999, 0);
+            y.reading(0, 0, false, 1, 1);
+            y.reading(0, 1, false, 1, 1);
+            due("one law", y.laws() * 10000 + y.law(0), 10000 + low);
+            due("a middle of " + low, y.rows(0, 0, 0, true), low == 0 ? -1 : 9000000);
+            due("is left all the same", y.left(0, 0, 0), 3);
+        }
         RainbowPlate middle = new RainbowPlate();
         middle.plate(1, 1, 1000, 9999, 0);
         middle.reading(0, 0, false, 1, 1);
@@ -829,9 +879,11 @@ public final class PromisesTest {
         x.line(1, 2010, 1);
         // within 2 times 5; with time 2 a slit of 3 is enough and 10 is above 6
         due("too near by slit 5", x.next(1, 2, 1000, 9999), 23);
+        due("the other way", x.next(2, 1, 1000, 9999), 23);
         x.line(1, 1994, 1);
         // 6 away: not more than 2 times 3; time 3 slit 2
         due("too near by slit 3", x.next(1, 2, 1000, 9999), 32);
+        due("the other way too", x.next(2, 1, 1000, 9999), 32);
         due("the other one's line need not be seen to stand near", x.next(1, 2, 2000, 2000), 32);
         x.line(2, 1996, 1);
         // 4 away: not more than 2 times 2; time 5 slit 1
@@ -844,6 +896,8 @@ public final class PromisesTest {
         // 1 times 9 times 4
         due("a faint line, the least time ahead of the least slit", x.next(8, 0, 1000, 9999), 65);
         due("air is of no set", x.next(4, 0, 1000, 9999), -1);
+        x.line(3, 6000, 9);
+        due("a second line", x.next(8, 0, 1000, 9999), 14);
         thrown("next from", ILLEGAL, () -> x.next(0, 0, 999, 1000));
         thrown("next to", ILLEGAL, () -> x.next(0, 0, 1000, 10000));
         thrown("next order", ILLEGAL, () -> x.next(0, 0, 1001, 1000));
@@ -917,8 +971,10 @@ public final class PromisesTest {
         due("the same place", x.alike(0, 1), 8);
         due("the other way", x.alike(1, 0), 2);
         due("itself", x.alike(0, 0), 1 + 4 + 8);
+        x.reading(0, 200, false, 1, 1);
+        due("two of them", x.alike(0, 1), 8 + 16);
         x.screw(10, 0, 0, 1);
-        due("a lag of 1", x.alike(0, 1), 0);
+        due("a lag of 1 moves the one turned down", x.alike(0, 1), 16);
         x.screw(10, 0, 0, 0);
         x.known(0, false, 2000, false);
         due("without spans", x.alike(0, 0), 0);
@@ -1143,6 +1199,18 @@ public final class PromisesTest {
         dueChance("not of the set", none, 0, 0, 1, 1);
         none.recipe(0, 0, 0, 0);
         dueChance("0 to 0", none, 0, 0, 1, 1);
+        RainbowPlate both = oneLine(5, 2);
+        both.plate(9, 5, 1000, 9999, 0);
+        both.reading(1, 200, false, 8, 1);
+        both.maker();
+        both.maker();
+        both.recipe(0, 0, 0, 3);
+        both.recipe(1, 0, 4, 9);
+        due("likely by plate 0", both.likely(0, 1), 0);
+        due("likely by plate 1", both.likely(1, 1), 1);
+        due("forged by plate 0", both.forged(0, 1, 1), true);
+        due("not by plate 1", both.forged(1, 1, 1), false);
+        due("missed on neither", both.missed(0, 1, 0) + both.missed(1, 1, 0), 0);
         RainbowPlate wide = exact();
         wide.plate(9, 5, 1000, 9999, 0);
         for (int m = 0; m < 2; m++) {
@@ -1255,6 +1323,8 @@ public final class PromisesTest {
             longest.append("+1");
         }
         dueRight(longest.substring(0, 397) + ">1");
+        dueRight(longest.substring(0, 395) + "<laws");
+        dueRight("may 03");
         RainbowPlate x = new RainbowPlate();
         for (int n = 0; n < 6; n++) {
             Checks.put(x, "may 0");
@@ -1273,6 +1343,15 @@ public final class PromisesTest {
     // Promise 45
     private static void claimFaults() {
         dueWrong("", 0);
+        dueWrong("(".repeat(400), 6);
+        dueWrong("1" + " ".repeat(399), 400);
+        dueWrong("1".repeat(400), 0);
+        for (String word : new String[] {"nay 0", "xure 0", "xot may 0", "jets < 1", "tewest < 1", "headings < 1",
+            "hhosts < 1", "jaws < 1"}) {
+            dueWrong(word, 0);
+        }
+        dueWrong("may 0 xr may 0", 6);
+        dueWrong("may 0 end may 0", 6);
         dueWrong("   ", 3);
         dueWrong("may", 3);
         dueWrong("may ", 4);
@@ -1399,6 +1478,8 @@ public final class PromisesTest {
         dueHolds(x, 0, "not 1 > 2 and 1 > 2", false);
         dueHolds(x, 0, "not (1 > 2 and 1 > 2)", true);
         dueHolds(x, 0, "not not 1 < 2", true);
+        dueHolds(x, 0, "not 2 < 1", true);
+        dueHolds(x, 0, "not 2 > 1", false);
         dueHolds(x, 0, "not 1 < 2 or 1 < 2", true);
         dueHolds(x, 0, "not (not (not (1 < 2)))", false);
         dueHolds(x, 0, "1>2 or (1<2 and (1>2 or (1<2 and (1>2 or (1<2 and (1>2 or 1+1<1+2)))))"
@@ -1460,6 +1541,8 @@ public final class PromisesTest {
         Checks.put(x, "may 1");
         x.claim();
         x.feed(1, 2, 3, 4, 5);
+        x.laws();
+        x.sets(0, 0);
         for (int round = 0; round < 2; round++) {
             due("back", x.back(), true);
             int[] want = {1, 2, 1, 1, 1, 1, 0, 1, 0, 1, 1};
@@ -1469,6 +1552,10 @@ public final class PromisesTest {
             due("laws after back", x.laws(), laws);
             due("fits after back", x.fits(), fits);
             due("place after back", x.look(0, 1), 200);
+            due("plate after back", x.look(0, 0), 0);
+            due("down after back", x.look(0, 2), 1);
+            due("strength after back", x.look(0, 3), 5);
+            due("width after back", x.look(0, 4), 5);
             due("span after back", x.look(0, 6), least);
             due("truly after back", x.truly(2, true), 6);
             due("recipe after back", x.chance(0, 1, 0, false) * 10 + x.chance(0, 1, 0, true), 29);
