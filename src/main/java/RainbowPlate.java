@@ -124,13 +124,13 @@ public final class RainbowPlate {
     public int law(int what) throws NoSuchElementException {
         wantWhat(within(what, 0, 2));
         solver.solve();
-        if (solver.held == 0) {
+        if (solver.total == 0) {
             return NO_LAW;
         }
         if (what == 0) {
-            return solver.least[0];
+            return solver.firstA;
         }
-        return what == 1 ? solver.slope[0] : solver.bend[0];
+        return what == 1 ? solver.firstB : solver.firstC;
     }
 
     public int span(int place, boolean down, boolean most) throws IllegalArgumentException {
@@ -516,7 +516,7 @@ public final class RainbowPlate {
             case 8: return desk.knowns.error;
             case 9:
                 solver.solve();
-                return solver.held > 0 ? desk.shelf.readings : 0;
+                return solver.total > 0 ? desk.shelf.readings : 0;
             case 10: return desk.makerCount;
             default: return NONE;
         }
@@ -525,7 +525,7 @@ public final class RainbowPlate {
     private int spanEnd(int truePlace, boolean most) {
         solver.solve();
         int slot = solver.slotOf(truePlace);
-        if (solver.held == 0 || slot == NONE) {
+        if (slot == NONE) {
             return NO_SPAN;
         }
         return most ? solver.spanHigh[slot] : solver.spanLow[slot];
@@ -884,27 +884,34 @@ public final class RainbowPlate {
 
     /**
      * The laws that hold. For one B and C the numbers A by which all known lines are met lie
-     * side by side, so that each B and C that holds is kept with its least and greatest A.
+     * side by side. For one C, of the least A by each B only those matter to the least wave at any
+     * place that lie on the hull below them, of the greatest A those on the hull above: these few
+     * are kept as points, since spans are asked for at many places.
      */
     private static final class Laws {
         static final int SLOPES = 90;
         static final int BENDS = 9;
         static final int LAST_A = 9999;
+        static final int BELOW = 1;
+        static final int ABOVE = -1;
         /** True places go from -9 to 1017, and 30 further in a warm room. */
         static final int LOWEST = -39;
         static final int HIGHEST = 1047;
         static final int UNMEASURED = -1000000;
+        static final int FAR = 1000000000;
 
         final Desk desk;
         final int[] places = new int[MOST_KNOWN];
-        final int[] slope = new int[SLOPES * (2 * BENDS + 1)];
-        final int[] bend = new int[SLOPES * (2 * BENDS + 1)];
-        final int[] least = new int[SLOPES * (2 * BENDS + 1)];
-        final int[] most = new int[SLOPES * (2 * BENDS + 1)];
+        final int[] lowPoints = new int[SLOPES * (2 * BENDS + 1)];
+        final int[] highPoints = new int[SLOPES * (2 * BENDS + 1)];
         final int[] spanLow = new int[HIGHEST - LOWEST + 1];
         final int[] spanHigh = new int[HIGHEST - LOWEST + 1];
-        int held;
+        int lowSize;
+        int highSize;
         int total;
+        int firstA;
+        int firstB;
+        int firstC;
         boolean fresh;
         int lowA;
         int highA;
@@ -923,21 +930,65 @@ public final class RainbowPlate {
             }
             Arrays.fill(spanLow, UNMEASURED);
             putPlaces(0);
-            held = 0;
             total = 0;
-            for (int b = 1; b <= SLOPES; b++) {
-                for (int c = -BENDS; c <= BENDS; c++) {
-                    if (meetsAll(b, c) && held < slope.length) {
-                        slope[held] = b;
-                        bend[held] = c;
-                        least[held] = lowA;
-                        most[held] = highA;
-                        held++;
-                        total += highA - lowA + 1;
-                    }
-                }
+            lowSize = 0;
+            highSize = 0;
+            for (int c = -BENDS; c <= BENDS; c++) {
+                solveBend(c);
             }
             fresh = true;
+        }
+
+        private void solveBend(int c) {
+            int lowBegin = lowSize;
+            int highBegin = highSize;
+            for (int b = 1; b <= SLOPES; b++) {
+                if (meetsAll(b, c)) {
+                    if (total == 0 || b < firstB) {
+                        firstA = lowA;
+                        firstB = b;
+                        firstC = c;
+                    }
+                    total += highA - lowA + 1;
+                    lowSize = added(lowPoints, lowBegin, lowSize, pointOf(lowA, b, c), BELOW);
+                    highSize = added(highPoints, highBegin, highSize, pointOf(highA, b, c), ABOVE);
+                }
+            }
+        }
+
+        private static int pointOf(int a, int b, int c) {
+            return a << 12 | b << 5 | c + BENDS;
+        }
+
+        private static int aOf(int point) {
+            return point >> 12;
+        }
+
+        private static int bOf(int point) {
+            return point >> 5 & 127;
+        }
+
+        private static int cOf(int point) {
+            return (point & 31) - BENDS;
+        }
+
+        /** The size of the row of points with one more, less those that are no more on the hull from begin on. */
+        private static int added(int[] points, int begin, int size, int point, int side) {
+            int top = size;
+            while (top - begin >= 2 && side * turn(points[top - 2], points[top - 1], point) >= 0) {
+                top--;
+            }
+            if (top < points.length) {
+                points[top] = point;
+                top++;
+            }
+            return top;
+        }
+
+        /** Above 0 if the middle one lies above the way from the first to the last, 0 if on it. */
+        private static int turn(int first, int middle, int last) {
+            return (aOf(middle) - aOf(first)) * (bOf(last) - bOf(first))
+                - (aOf(last) - aOf(first)) * (bOf(middle) - bOf(first));
         }
 
         boolean someHolds(int slip) {
@@ -966,39 +1017,41 @@ public final class RainbowPlate {
             lowA = 0;
             highA = LAST_A;
             for (int k = 0; k < knowns.size && lowA <= highA; k++) {
-                int middle = knowns.wave[k] - rise(b, c, places[k]);
-                lowA = Math.max(lowA, middle - knowns.error);
-                highA = Math.min(highA, middle + knowns.error);
+                int rise = Math.floorDiv((1000 * b + c * places[k]) * places[k], 10000);
+                lowA = Math.max(lowA, knowns.wave[k] - rise - knowns.error);
+                highA = Math.min(highA, knowns.wave[k] - rise + knowns.error);
             }
             return lowA <= highA;
         }
 
-        private static int rise(int b, int c, int place) {
-            return Math.floorDiv((1000 * b + c * place) * place, 10000);
-        }
-
-        /** Where the span at a true place stands, measured by now; NONE for a place that no reading can have. */
+        /** Where the span at a true place stands, measured by now; NONE if there is no span. */
         int slotOf(int truePlace) {
             int slot = truePlace - LOWEST;
-            if (slot < 0 || slot >= spanLow.length) {
+            if (total == 0 || slot < 0 || slot >= spanLow.length) {
                 return NONE;
             }
-            if (spanLow[slot] == UNMEASURED && held > 0) {
+            if (spanLow[slot] == UNMEASURED) {
                 measure(truePlace, slot);
             }
             return slot;
         }
 
+        /** Rounding down keeps the order, so that it is done once, to the least and to the greatest. */
         private void measure(int truePlace, int slot) {
-            int low = -UNMEASURED;
-            int high = UNMEASURED;
-            for (int n = 0; n < held; n++) {
-                int rise = rise(slope[n], bend[n], truePlace);
-                low = Math.min(low, least[n] + rise);
-                high = Math.max(high, most[n] + rise);
+            int low = FAR;
+            for (int n = 0; n < lowSize; n++) {
+                low = Math.min(low, height(lowPoints[n], truePlace));
             }
-            spanLow[slot] = low - desk.knowns.error;
-            spanHigh[slot] = high + desk.knowns.error;
+            int high = -FAR;
+            for (int n = 0; n < highSize; n++) {
+                high = Math.max(high, height(highPoints[n], truePlace));
+            }
+            spanLow[slot] = Math.floorDiv(low, 10000) - desk.knowns.error;
+            spanHigh[slot] = Math.floorDiv(high, 10000) + desk.knowns.error;
+        }
+
+        private static int height(int point, int place) {
+            return 10000 * aOf(point) + (1000 * bOf(point) + cOf(point) * place) * place;
         }
     }
 
@@ -1053,7 +1106,7 @@ public final class RainbowPlate {
 
         private void putSpan(int r, int ticks) {
             int slot = solver.slotOf(desk.screw.truePlace(desk.shelf.place[r], desk.shelf.down[r]) + ticks);
-            if (slot == NONE || solver.held == 0) {
+            if (slot == NONE) {
                 putNoSpan(r);
                 return;
             }
@@ -1267,7 +1320,7 @@ public final class RainbowPlate {
             for (int s = 0; s < desk.shelf.readings; s++) {
                 if (desk.shelf.plate[s] == second) {
                     int slot = solver.slotOf(desk.screw.truePlace(desk.shelf.place[s], desk.shelf.down[s]));
-                    if (slot != NONE && solver.held > 0) {
+                    if (slot != NONE) {
                         bits |= meeting(solver.spanLow[slot], solver.spanHigh[slot]);
                     }
                 }

@@ -29,6 +29,9 @@ public final class OracleTest {
             }
         }
         allLaws();
+        for (int run = 0; run < 60; run++) {
+            spansEverywhere(new Random(run), run);
+        }
         Checks.finish("OracleTest");
     }
 
@@ -62,6 +65,46 @@ public final class OracleTest {
             Checks.due("laws of " + n, y.laws(), many);
             Checks.due("least at 700 of " + n, y.span(700, true, false), low - error);
             Checks.due("greatest at 700 of " + n, y.span(700, true, true), high + error);
+        }
+    }
+
+    /** Few known lines let many laws be, so that all of these must be in the spans. */
+    private static void spansEverywhere(Random random, int run) {
+        Oracle o = new Oracle();
+        RainbowPlate y = new RainbowPlate();
+        o.error = random.nextInt(51);
+        y.error(o.error);
+        Oracle.Law hidden = new Oracle.Law(random.nextInt(10000), 1 + random.nextInt(90), random.nextInt(19) - 9);
+        int many = random.nextInt(4);
+        for (int n = 0; n < many; n++) {
+            int place = random.nextInt(1000);
+            int wave = hidden.at(place) + random.nextInt(2 * o.error + 1) - o.error;
+            if (wave >= 1000 && wave <= 9999) {
+                o.knowns.add(new Oracle.Known(place, false, wave, true));
+                y.known(place, false, wave, true);
+            }
+        }
+        for (int place = 0; place < 1000; place += 1 + random.nextInt(40)) {
+            int low = Integer.MAX_VALUE;
+            int high = Integer.MIN_VALUE;
+            for (int b = 1; b <= 90; b++) {
+                for (int c = -9; c <= 9; c++) {
+                    int least = 0;
+                    int most = 9999;
+                    for (Oracle.Known k : o.knowns) {
+                        int rise = new Oracle.Law(0, b, c).at(k.place());
+                        least = Math.max(least, k.wave() - o.error - rise);
+                        most = Math.min(most, k.wave() + o.error - rise);
+                    }
+                    if (least <= most) {
+                        low = Math.min(low, new Oracle.Law(least, b, c).at(place));
+                        high = Math.max(high, new Oracle.Law(most, b, c).at(place));
+                    }
+                }
+            }
+            boolean none = low > high;
+            Checks.due("few lines " + run + " least at " + place, y.span(place, true, false), none ? -99999 : low - o.error);
+            Checks.due("few lines " + run + " greatest at " + place, y.span(place, true, true), none ? -99999 : high + o.error);
         }
     }
 
