@@ -1,4 +1,9 @@
+import java.lang.reflect.InvocationTargetException;
+import java.lang.reflect.Method;
 import java.nio.charset.StandardCharsets;
+import java.util.ArrayList;
+import java.util.Comparator;
+import java.util.List;
 
 /** What all tests of the project use: calls and the answers that are due, and texts on the tape. */
 final class Checks {
@@ -6,8 +11,17 @@ final class Checks {
         void make();
     }
 
+    interface Maker {
+        RainbowPlate make();
+    }
+
+    interface Deed {
+        void on(RainbowPlate x);
+    }
+
     private static int wrong = 0;
     private static int made = 0;
+    private static String running = "";
 
     private Checks() {
     }
@@ -15,13 +29,17 @@ final class Checks {
     static void due(String what, long got, long want) {
         made++;
         if (got != want) {
-            wrong++;
-            System.out.println(what + " answered " + got + ", due is " + want);
+            fail(what + " answered " + got + ", due is " + want);
         }
     }
 
     static void due(String what, boolean got, boolean want) {
         due(what, got ? 1 : 0, want ? 1 : 0);
+    }
+
+    private static void fail(String told) {
+        wrong++;
+        System.out.println(running + told);
     }
 
     /** The call must throw just this class and none below it. */
@@ -34,9 +52,32 @@ final class Checks {
             got = e.getClass();
         }
         if (got != want) {
-            wrong++;
-            System.out.println(what + " threw " + got + ", due is " + want);
+            fail(what + " threw " + got + ", due is " + want);
         }
+    }
+
+    /** The call must throw just this class, and leave the object like one on which it was not made. */
+    static void refused(String what, Class<? extends RuntimeException> want, Maker maker, Deed deed) {
+        RainbowPlate x = maker.make();
+        thrown(what, want, () -> deed.on(x));
+        same(what, State.of(x), State.of(maker.make()));
+    }
+
+    static void same(String what, List<String> got, List<String> want) {
+        made++;
+        for (int n = 0; n < Math.max(got.size(), want.size()); n++) {
+            String one = n < got.size() ? got.get(n) : "nothing";
+            String other = n < want.size() ? want.get(n) : "nothing";
+            if (!one.equals(other)) {
+                fail(what + " left " + one + ", due is " + other);
+                return;
+            }
+        }
+    }
+
+    /** Numbers that lie outside of the bounds: next to both, and as far as can be. */
+    static int[] outside(int low, int high) {
+        return new int[] {low - 1, high + 1, Integer.MIN_VALUE, Integer.MAX_VALUE};
     }
 
     static void put(RainbowPlate x, String text) {
@@ -51,6 +92,30 @@ final class Checks {
             x.feed(five[0], five[1], five[2], five[3], five[4]);
         }
         x.end(bytes.length);
+    }
+
+    /** Runs each method whose name begins with a promise's number; each promise from first to last must have one. */
+    static void runPromises(Class<?> tests, int first, int last) throws Exception {
+        List<Method> methods = new ArrayList<>(List.of(tests.getDeclaredMethods()));
+        methods.removeIf(method -> !method.getName().startsWith("promise"));
+        methods.sort(Comparator.comparing(Method::getName));
+        for (int promise = first; promise <= last; promise++) {
+            String name = String.format("promise%02d", promise);
+            due(name + " has a test", methods.stream().anyMatch(method -> method.getName().startsWith(name)), true);
+        }
+        for (Method method : methods) {
+            running = method.getName() + ": ";
+            int before = made;
+            method.setAccessible(true);
+            try {
+                method.invoke(null);
+            } catch (InvocationTargetException e) {
+                fail("threw " + e.getCause());
+            }
+            due("checks something", made > before, true);
+        }
+        running = "";
+        finish(tests.getSimpleName());
     }
 
     static void finish(String name) {

@@ -1,12 +1,5 @@
-import java.util.NoSuchElementException;
-
 /** Each promise of the document by its number: ordinary inputs, edges and wrong inputs. */
-public final class PromisesTest {
-    private static final Class<IllegalArgumentException> ILLEGAL = IllegalArgumentException.class;
-    private static final Class<UnsupportedOperationException> FULL = UnsupportedOperationException.class;
-    private static final Class<IndexOutOfBoundsException> INDEX = IndexOutOfBoundsException.class;
-    private static final Class<NoSuchElementException> NO_SUCH = NoSuchElementException.class;
-
+public final class PromisesTest extends Edges {
     public static void main(String[] args) {
         newObject();
         tape();
@@ -35,27 +28,6 @@ public final class PromisesTest {
         image();
         counts();
         Checks.finish("PromisesTest");
-    }
-
-    private static void due(String what, long got, long want) {
-        Checks.due(what, got, want);
-    }
-
-    private static void due(String what, boolean got, boolean want) {
-        Checks.due(what, got, want);
-    }
-
-    private static void thrown(String what, Class<? extends RuntimeException> want, Checks.Call call) {
-        Checks.thrown(what, want, call);
-    }
-
-    /** One law alone holds: the wave at a true place is 1000 and 5 for each tick. */
-    private static RainbowPlate exact() {
-        RainbowPlate x = new RainbowPlate();
-        x.error(0);
-        x.known(0, false, 1000, false);
-        x.known(100, false, 1500, false);
-        return x;
     }
 
     // Promise 1
@@ -258,7 +230,7 @@ public final class PromisesTest {
         thrown("an 11th", FULL, () -> k.known(0, false, 1000, false));
         due("10 stay", k.count(1), 10);
 
-        RainbowPlate s = exact();
+        RainbowPlate s = Make.exact();
         due("one law", s.laws(), 1);
         due("its A", s.law(0), 1000);
         due("its B", s.law(1), 50);
@@ -278,20 +250,20 @@ public final class PromisesTest {
     // Promise 14
     private static void slips() {
         due("nothing known", new RainbowPlate().slipped(), 0);
-        RainbowPlate x = exact();
+        RainbowPlate x = Make.exact();
         due("holds as it is", x.slipped(), 0);
         x.known(200, false, 2010, true);
         due("2 ticks more", x.slipped(), 2);
-        RainbowPlate y = exact();
+        RainbowPlate y = Make.exact();
         y.known(200, false, 1850, true);
         due("30 ticks less", y.slipped(), -30);
-        RainbowPlate z = exact();
+        RainbowPlate z = Make.exact();
         z.known(200, false, 1840, true);
         due("32 ticks less are too many", z.slipped(), 99);
-        RainbowPlate p = exact();
+        RainbowPlate p = Make.exact();
         p.known(200, false, 2150, true);
         due("30 ticks more", p.slipped(), 30);
-        RainbowPlate q = exact();
+        RainbowPlate q = Make.exact();
         q.known(200, false, 2160, false);
         due("not of the spark", q.slipped(), 99);
         RainbowPlate mirror = new RainbowPlate();
@@ -332,7 +304,7 @@ public final class PromisesTest {
         flat.known(700, false, 1513, true);
         // (702000 + 9 times 702 times 702) by 10000 is 513, at 701 it is 512
         due("B 1, C 9 alone", flat.slipped(), 2);
-        RainbowPlate turned = exact();
+        RainbowPlate turned = Make.exact();
         turned.screw(10, 0, 0, 7);
         turned.known(200, true, 2035, true);
         due("a spark turned down", turned.slipped(), 0);
@@ -384,7 +356,7 @@ public final class PromisesTest {
 
     // Promises 17 to 20, 22
     private static void platesAndReadings() {
-        RainbowPlate x = exact();
+        RainbowPlate x = Make.exact();
         int[][] wrong = {{0, 1, 1000, 1000, 0}, {10, 1, 1000, 1000, 0}, {1, 0, 1000, 1000, 0}, {1, 6, 1000, 1000, 0},
             {1, 1, 999, 1000, 0}, {1, 1, 1000, 10000, 0}, {1, 1, 1001, 1000, 0}, {1, 1, 1000, 1000, -1},
             {1, 1, 1000, 1000, 501}};
@@ -488,7 +460,7 @@ public final class PromisesTest {
 
     // Promises 23 to 26
     private static void sets() {
-        RainbowPlate x = exact();
+        RainbowPlate x = Make.exact();
         x.plate(9, 5, 1500, 3500, 0);
         for (int e = 0; e < 4; e++) {
             x.element(e == 1);
@@ -558,7 +530,7 @@ public final class PromisesTest {
         due("and all are missed", x.missed(0, 13, 0), 3);
         due("nothing explains", x.sets(0, 0), 0);
 
-        RainbowPlate g = exact();
+        RainbowPlate g = Make.exact();
         g.plate(9, 5, 1000, 9999, 20);
         g.element(false);
         g.line(0, 2000, 9);
@@ -569,7 +541,7 @@ public final class PromisesTest {
         g.line(0, 2100, 9);
         due("but a line may lie in it", g.missed(0, 1, 0), 0);
 
-        RainbowPlate f = exact();
+        RainbowPlate f = Make.exact();
         f.plate(9, 5, 1000, 9999, 0);
         for (int e = 0; e < 3; e++) {
             f.element(false);
@@ -586,7 +558,7 @@ public final class PromisesTest {
 
     // Promise 27
     private static void speeds() {
-        RainbowPlate x = exact();
+        RainbowPlate x = Make.exact();
         x.plate(9, 5, 2000, 3000, 0);
         x.element(false);
         x.element(true);
@@ -608,7 +580,7 @@ public final class PromisesTest {
         x.line(1, 2450, 9);
         due("air explains the reading, but the line is missed", x.speeds(0, 1, 0), 1);
         due("air alone at each speed", x.speeds(0, 0, 0), 101);
-        RainbowPlate two = exact();
+        RainbowPlate two = Make.exact();
         two.plate(1, 1, 1000, 9999, 0);
         two.element(false);
         two.line(0, 2000, 1);
@@ -630,7 +602,7 @@ public final class PromisesTest {
     }
 
     private static RainbowPlate oneLine(int strength, int seen) {
-        RainbowPlate x = exact();
+        RainbowPlate x = Make.exact();
         x.plate(9, 5, 1000, 9999, 0);
         x.element(false);
         x.line(0, 2000, strength);
@@ -686,7 +658,7 @@ public final class PromisesTest {
         a.element(true);
         a.line(1, 2000, 1);
         dueAmounts("a line of air in it", a, 1, 9);
-        RainbowPlate faint = exact();
+        RainbowPlate faint = Make.exact();
         faint.plate(1, 1, 1000, 9999, 0);
         faint.element(false);
         faint.line(0, 2000, 5);
@@ -699,7 +671,7 @@ public final class PromisesTest {
         twice.reading(1, 200, false, 9, 1);
         dueAmounts("a reading of another plate", twice, 4, 5);
         due("of that plate", twice.amount(1, 1, 0, false), 8);
-        RainbowPlate air = exact();
+        RainbowPlate air = Make.exact();
         air.plate(9, 5, 1000, 9999, 0);
         air.element(true);
         air.line(0, 2000, 5);
@@ -713,7 +685,7 @@ public final class PromisesTest {
 
     // Promise 29
     private static void wide() {
-        RainbowPlate x = exact();
+        RainbowPlate x = Make.exact();
         x.plate(1, 3, 1000, 9999, 0);
         x.plate(1, 1, 1000, 9999, 0);
         x.element(false);
@@ -756,7 +728,7 @@ public final class PromisesTest {
 
     /** A wave of 100000 by n makes the number 100 n, where n parts 100000. */
     private static RainbowPlate numbers(int... hundreds) {
-        RainbowPlate x = exact();
+        RainbowPlate x = Make.exact();
         x.plate(1, 1, 1000, 9999, 0);
         for (int n : hundreds) {
             x.reading(0, (100000 / n - 1000) / 5, false, 1, 1);
@@ -795,7 +767,7 @@ public final class PromisesTest {
         skipped.line(0, 5000, 1);
         due("what a line lies in is not left", skipped.rows(0, 1, 0, true), 2500);
         due("but by the empty set", skipped.rows(0, 0, 0, false), 2);
-        RainbowPlate near = exact();
+        RainbowPlate near = Make.exact();
         near.plate(1, 1, 1000, 9999, 0);
         near.reading(0, 999, false, 1, 1);
         near.reading(0, 998, false, 1, 1);
@@ -906,7 +878,7 @@ public final class PromisesTest {
 
     // Promise 32
     private static void misprints() {
-        RainbowPlate x = exact();
+        RainbowPlate x = Make.exact();
         x.plate(9, 5, 1000, 9999, 0);
         x.element(false);
         x.element(true);
@@ -938,13 +910,13 @@ public final class PromisesTest {
         int r = ones.reading(0, (2090 - 1000) / 5, false, 1, 1);
         due("spans of one law", ones.look(r, 6), 2088);
         due("0 and 1: no; 1 and 9: 2091", ones.misprint(0, 0), r);
-        RainbowPlate faint = exact();
+        RainbowPlate faint = Make.exact();
         faint.plate(1, 1, 1000, 9999, 0);
         faint.element(false);
         faint.line(0, 2345, 9);
         faint.reading(0, (2435 - 1000) / 5, false, 1, 1);
         due("a line that need not be seen", faint.misprint(0, 0), -1);
-        RainbowPlate ghost = exact();
+        RainbowPlate ghost = Make.exact();
         ghost.plate(9, 5, 1000, 9999, 20);
         ghost.element(false);
         ghost.line(0, 2345, 1);
@@ -960,7 +932,7 @@ public final class PromisesTest {
 
     // Promise 33
     private static void alike() {
-        RainbowPlate x = exact();
+        RainbowPlate x = Make.exact();
         x.plate(1, 1, 1000, 9999, 0);
         x.plate(1, 1, 1000, 9999, 0);
         due("nothing", x.alike(0, 1), 0);
@@ -1009,7 +981,7 @@ public final class PromisesTest {
 
     // Promise 34
     private static void stars() {
-        RainbowPlate x = exact();
+        RainbowPlate x = Make.exact();
         x.plate(9, 5, 1000, 9999, 20);
         x.element(false);
         x.element(false);
@@ -1037,7 +1009,7 @@ public final class PromisesTest {
         dueStars("a ghost", x, 1, 2, 1, 10, -20);
         x.reading(0, 660, false, 1, 1);
         dueStars("no ghost", x, 1, 2, 0, 99, 99);
-        RainbowPlate two = exact();
+        RainbowPlate two = Make.exact();
         two.plate(9, 5, 1000, 9999, 0);
         two.element(false);
         two.line(0, 2000, 9);
@@ -1052,7 +1024,7 @@ public final class PromisesTest {
 
     // Promise 35
     private static void drift() {
-        RainbowPlate x = exact();
+        RainbowPlate x = Make.exact();
         x.plate(9, 5, 1000, 9999, 0);
         x.plate(9, 5, 1000, 9999, 0);
         due("nothing to explain", x.drift(0, 0, false), 61);
@@ -1066,7 +1038,7 @@ public final class PromisesTest {
         due("one", x.drift(0, 1, false), 1);
         due("3 less", x.drift(0, 1, true), -3);
         due("the other plate stays", x.drift(1, 1, false), 0);
-        RainbowPlate y = exact();
+        RainbowPlate y = Make.exact();
         y.plate(1, 1, 1000, 9999, 0);
         y.element(false);
         y.line(0, 1850, 1);
@@ -1078,7 +1050,7 @@ public final class PromisesTest {
         due("29 is nearer", y.drift(0, 1, true), 29);
         y.line(0, 1845, 1);
         due("31 ticks are too many", y.drift(0, 1, false), 3);
-        RainbowPlate edge = exact();
+        RainbowPlate edge = Make.exact();
         edge.plate(1, 1, 1000, 9999, 0);
         edge.element(false);
         edge.screw(2, 9, 1, 0);
@@ -1121,7 +1093,7 @@ public final class PromisesTest {
         below.reading(0, 0, false, 1, 1);
         below.line(0, 2000 - 5 * 39, 1);
         due("30 below -9", below.drift(0, 1, true), -30);
-        RainbowPlate g = exact();
+        RainbowPlate g = Make.exact();
         g.plate(9, 5, 1000, 9999, 20);
         g.element(true);
         g.line(0, 2000, 9);
@@ -1139,7 +1111,7 @@ public final class PromisesTest {
 
     // Promises 36 to 40
     private static void makers() {
-        RainbowPlate x = exact();
+        RainbowPlate x = Make.exact();
         x.plate(9, 5, 1000, 9999, 0);
         due("likely without makers", x.likely(0, 0), -1);
         thrown("recipe of none", INDEX, () -> x.recipe(0, 0, 10, 0));
@@ -1211,7 +1183,7 @@ public final class PromisesTest {
         due("forged by plate 0", both.forged(0, 1, 1), true);
         due("not by plate 1", both.forged(1, 1, 1), false);
         due("missed on neither", both.missed(0, 1, 0) + both.missed(1, 1, 0), 0);
-        RainbowPlate wide = exact();
+        RainbowPlate wide = Make.exact();
         wide.plate(9, 5, 1000, 9999, 0);
         for (int m = 0; m < 2; m++) {
             wide.maker();
@@ -1247,7 +1219,7 @@ public final class PromisesTest {
 
     // Promises 42, 43
     private static void grainAndNear() {
-        RainbowPlate x = exact();
+        RainbowPlate x = Make.exact();
         x.plate(1, 1, 1000, 9999, 20);
         x.plate(1, 1, 1000, 9999, 0);
         x.element(false);
@@ -1437,7 +1409,7 @@ public final class PromisesTest {
 
     // Promise 46
     private static void claimValues() {
-        RainbowPlate x = exact();
+        RainbowPlate x = Make.exact();
         x.plate(9, 5, 1000, 9999, 20);
         x.plate(9, 5, 1000, 9999, 0);
         x.element(false);
@@ -1507,7 +1479,7 @@ public final class PromisesTest {
 
     // Promises 47, 48
     private static void image() {
-        RainbowPlate x = exact();
+        RainbowPlate x = Make.exact();
         due("back without one", x.back(), false);
         x.screw(20, 1, 2, 3);
         x.gauge(1, false, 2, false, 1);
@@ -1584,7 +1556,7 @@ public final class PromisesTest {
 
     // Promise 49
     private static void counts() {
-        RainbowPlate x = exact();
+        RainbowPlate x = Make.exact();
         x.gauge(0, false, 0, false, 0);
         x.element(false);
         x.element(false);
