@@ -269,6 +269,14 @@ public final class BellEdgesTest extends Edges {
         due("0", x.forged(0, 1, 3), true);
     }
 
+    static void promise40TheFirstMakerHasTheGreatest() {
+        RainbowPlate x = bell();
+        x.maker();
+        x.recipe(1, 0, 4, 5);
+        due("maker 0", x.forged(0, 1, 0), false);
+        due("maker 1", x.forged(0, 1, 1), true);
+    }
+
     static void promise41OffFrom0To999() {
         // 5000 is 2500 and 2500
         due("0", Make.waves(2000, 4000, 4000).sums(0, 0, 0), 1);
@@ -314,6 +322,13 @@ public final class BellEdgesTest extends Edges {
         y.reading(0, 999, true, 1, 1);
         // numbers below 1000, so that each of three is the other two to 999
         due("in three ways", y.sums(0, 0, 999), 1);
+    }
+
+    static void promise41WhicheverOfThreeIsTheSum() {
+        due("the first", Make.waves(2000, 4000, 4000).sums(0, 0, 0), 1);
+        due("the second", Make.waves(4000, 2000, 4000).sums(0, 0, 0), 1);
+        due("the third", Make.waves(4000, 4000, 2000).sums(0, 0, 0), 1);
+        due("none", Make.waves(2000, 2500, 4000).sums(0, 0, 0), 0);
     }
 
     static void promise41OnlyTheFirst10() {
@@ -410,6 +425,21 @@ public final class BellEdgesTest extends Edges {
         x.line(0, 5000, 1);
         due("the other has none", x.near(0, 1, 999), 0);
         due("it has none", x.near(1, 0, 999), 0);
+    }
+
+    static void promise43SixLinesOfOneAreNotTheNexts() {
+        RainbowPlate x = new RainbowPlate();
+        for (int e = 0; e < 3; e++) {
+            x.element(false);
+        }
+        for (int n = 0; n < 6; n++) {
+            x.line(0, 5000, 1);
+        }
+        x.line(1, 8000, 1);
+        x.line(2, 8000, 1);
+        due("of 2 by 0", x.near(2, 0, 0), 0);
+        due("of 0 by 2", x.near(0, 2, 0), 0);
+        due("of 2 by 1", x.near(2, 1, 0), 1);
     }
 
     static void promise43SixLinesByOne() {

@@ -106,6 +106,13 @@ public final class ClaimEdgesTest extends Edges {
         dueHolds("1<2and ".repeat(56) + "2<1", false);
     }
 
+    static void promise44TheMostSigns() {
+        dueWrong("(".repeat(400), 6);
+        dueWrong("1".repeat(400), 0);
+        dueWrong("1<1" + "+1".repeat(198) + "+", 400);
+        dueWrong("1+".repeat(200), 400);
+    }
+
     static void promise44BlanksBetweenAheadAndBehind() {
         dueRight("may0");
         dueRight("  may   0  ");
@@ -113,6 +120,8 @@ public final class ClaimEdgesTest extends Edges {
         dueRight("  1  +  2  <  3  +  4  ");
         dueRight("(may 0)or(may 1)and not(may 2)");
         dueRight("1<2or 1<2and 1<2");
+        dueRight("1<laws or 1<laws");
+        dueRight(" ".repeat(394) + "1<laws");
         dueWrong("may\t0", 3);
         dueWrong("may\n0", 3);
         dueWrong("may\u00000", 3);
@@ -125,6 +134,13 @@ public final class ClaimEdgesTest extends Edges {
         dueWrong("1<2 andnot 1<2", 4);
         dueWrong("1<2orand 1<2", 3);
         dueWrong("setsets<1", 0);
+        for (String word : new String[] {"nay 0", "xure 0", "xot may 0", "jets<1", "tewest<1", "headings<1", "hhosts<1", "jaws<1"}) {
+            dueWrong(word, 0);
+        }
+        dueWrong("1<2 xr 1<2", 4);
+        dueWrong("1<2 end 1<2", 4);
+        dueWrong("mat 0", 0);
+        dueWrong("seta<1", 0);
         dueWrong("s ets<1", 0);
         dueWrong("MAY 0", 0);
         dueWrong("maY 0", 0);
@@ -251,6 +267,26 @@ public final class ClaimEdgesTest extends Edges {
         dueWrong("()", 1);
         dueWrong("(may 0 or)", 9);
         dueWrong("not or", 4);
+    }
+
+    static void promise45WhatIsNoSignClosesNothing() {
+        dueWrong("(may 0#", 6);
+        dueWrong("(may 0 word", 7);
+        dueWrong("(may 0 12345", 7);
+        dueWrong("(may 0]", 6);
+        dueWrong("[may 0]", 0);
+        dueWrong("1 = 2", 2);
+        dueWrong("1 - 2 < 3", 2);
+    }
+
+    static void promise45BytesBehindTheEndDoNotCount() {
+        RainbowPlate x = new RainbowPlate();
+        Checks.put(x, "sets<lawsabc");
+        x.end(9);
+        due("letters", x.claim(), 0);
+        Checks.put(x, "1<9999999999");
+        x.end(6);
+        due("digits", x.claim(), 1);
     }
 
     static void promise45BytesAbove127() {
@@ -496,6 +532,67 @@ public final class ClaimEdgesTest extends Edges {
         due("of a right one", x.fault(), -1);
     }
 
+    static void promise48ReadingsComeBack() {
+        RainbowPlate x = Make.rich();
+        x.image();
+        for (int n = 0; n < 3; n++) {
+            x.away();
+        }
+        for (int n = 0; n < 3; n++) {
+            x.reading(1 - n / 2, 600 + n, n != 1, 4 + n, 7);
+        }
+        x.reading(0, 999, false, 1, 1);
+        x.back();
+        RainbowPlate want = Make.rich();
+        want.image();
+        Checks.same("three as they were", State.of(x), State.of(want));
+    }
+
+    static void promise48RecipesComeBack() {
+        RainbowPlate x = Make.full();
+        for (int m = 0; m < 4; m++) {
+            for (int e = 0; e < 6; e++) {
+                x.recipe(m, e, 9, 9);
+            }
+        }
+        x.back();
+        Checks.same("as they were", State.of(x), State.of(Make.full()));
+    }
+
+    static void promise48LinesOfElementsThatStayAreGone() {
+        RainbowPlate x = Make.bright();
+        x.line(0, 2000, 1);
+        x.element(true);
+        x.image();
+        x.line(0, 3000, 1);
+        x.line(1, 4000, 1);
+        x.back();
+        due("one stays", x.count(3), 1);
+        thrown("the second of element 0", INDEX, () -> x.lies(0, 1, 0));
+        thrown("the first of element 1", INDEX, () -> x.lies(1, 0, 0));
+        due("room for it again", x.line(0, 5000, 1), 1);
+        due("where it lies", x.lies(0, 1, 0), 5000);
+    }
+
+    static void promise48TheInstrumentComesBack() {
+        RainbowPlate x = Make.exact();
+        x.screw(20, 1, 2, 3);
+        x.gauge(100, false, 110, false, 10);
+        x.error(7);
+        x.image();
+        x.screw(10, 9, 9, 9);
+        x.gauge(100, false, 110, false, 30);
+        x.error(50);
+        x.known(500, false, 9000, true);
+        x.laws();
+        x.back();
+        RainbowPlate want = Make.exact();
+        want.screw(20, 1, 2, 3);
+        want.gauge(100, false, 110, false, 10);
+        want.error(7);
+        Checks.same("as it was", State.of(x), withImage(want));
+    }
+
     static void promise48ThereIsRoomAgain() {
         RainbowPlate x = new RainbowPlate();
         x.image();
@@ -551,10 +648,10 @@ public final class ClaimEdgesTest extends Edges {
     static void promise49GhostsOfAllPlates() {
         RainbowPlate x = new RainbowPlate();
         for (int n = 0; n < 3; n++) {
-            x.plate(1, 1, 1000, 9999, n);
+            x.plate(1, 1, 1000, 9999, 2 - n);
             x.reading(n, 500, false, 9, 1);
             x.reading(n, 501, false, 9, 1);
         }
-        due("none of plate 0, two of each other", x.count(6), 4);
+        due("two of each of the first two, none of the last", x.count(6), 4);
     }
 }

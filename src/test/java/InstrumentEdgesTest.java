@@ -548,6 +548,23 @@ public final class InstrumentEdgesTest extends Edges {
         due("laws", x.laws(), 0);
     }
 
+    static void promise11KnownLinesOfTheSparkCountWhereTheyAre() {
+        RainbowPlate x = Make.exact();
+        x.known(300, false, 2500, true);
+        due("as it is", x.laws(), 1);
+        x.known(300, false, 2505, true);
+        due("1 tick off", x.laws(), 0);
+    }
+
+    static void promise11KnownLinesMayBeTurnedDown() {
+        RainbowPlate x = Make.exact();
+        x.screw(10, 0, 0, 9);
+        x.known(300, true, 2545, false);
+        due("with a lag of 9", x.laws(), 1);
+        x.known(300, false, 2545, false);
+        due("turned up", x.laws(), 0);
+    }
+
     static void promise12WhatFrom0To2() {
         RainbowPlate x = Make.exact();
         due("A", x.law(0), 1000);
@@ -633,6 +650,19 @@ public final class InstrumentEdgesTest extends Edges {
         due("1017", x.span(999, true, true), 9999 + 10083);
     }
 
+    static void promise13WavesBelow0() {
+        RainbowPlate x = new RainbowPlate();
+        x.error(0);
+        x.screw(2, 9, 1, 0);
+        // true places 121, 491 and 891: 9 for each tick and A 0
+        x.known(130, false, 1089, false);
+        x.known(500, false, 4419, false);
+        x.known(900, false, 8019, false);
+        due("one law", x.laws(), 1);
+        due("least at -9", x.span(0, false, false), -81);
+        due("greatest at -9", x.span(0, false, true), -81);
+    }
+
     static void promise14NothingKnown() {
         due("0", new RainbowPlate().slipped(), 0);
     }
@@ -694,5 +724,12 @@ public final class InstrumentEdgesTest extends Edges {
         due("2 and 2", x.slipped(), 2);
         x.known(400, false, 3015, true);
         due("and 3", x.slipped(), 99);
+    }
+
+    static void promise14LawsWithinTheirBoundsOnly() {
+        due("B 1, C -9", rising(1).slipped(), 0);
+        due("B would be 0", rising(0).slipped(), 99);
+        due("B 90, C 9", rising(909).slipped(), 0);
+        due("B would be 91", rising(910).slipped(), 99);
     }
 }

@@ -67,6 +67,18 @@ public final class PlateEdgesTest extends Edges {
         due("by the empty set it is", x.rows(0, 0, 0, true), 3000);
     }
 
+    static void promise30FewOfAll24() {
+        RainbowPlate x = Make.waves(2000);
+        x.line(0, 5000, 1);
+        for (int n = 0; n < 22; n++) {
+            x.reading(0, 800, false, 1, 1);
+        }
+        x.reading(0, 300, false, 1, 1);
+        due("the first and the last are left", x.rows(0, 1, 0, false), 1);
+        due("their step", x.rows(0, 1, 0, true), 1000);
+        due("no sums", x.sums(0, 1, 999), 0);
+    }
+
     static void promise30AMiddleOfAtLeast1() {
         for (int a = 0; a <= 1; a++) {
             RainbowPlate x = new RainbowPlate();
@@ -124,6 +136,8 @@ public final class PlateEdgesTest extends Edges {
         dueRows("two of 3000", y, 0, 2, 3000);
         dueRows("2500 and 3000", y, 500, 2, 2500);
         dueRows("still by 999", y, 999, 2, 2500);
+        // 5000 2500 2500 2000: 500 twice and 2500 twice, each by one reading
+        dueRows("of steps that are as good the least", Make.waves(2000, 4000, 4000, 5000), 0, 1, 500);
     }
 
     static void promise31WavesFrom1000To9999() {
@@ -219,6 +233,18 @@ public final class PlateEdgesTest extends Edges {
         x.element(true);
         x.line(0, 5000, 9);
         due("air", x.next(1, 0, 1000, 9999), -1);
+    }
+
+    static void promise31SixLinesOfOneAreNotTheNexts() {
+        RainbowPlate x = new RainbowPlate();
+        x.element(false);
+        x.element(false);
+        for (int n = 0; n < 6; n++) {
+            x.line(0, 5000, 1);
+        }
+        x.line(1, 6000, 9);
+        due("the line of the other is not of the first", x.next(1, 0, 1000, 9999), 65);
+        due("nor does it stand near for it", x.next(2, 1, 6000, 6000), 14);
     }
 
     static void promise32WhatIsNotThere() {
@@ -336,6 +362,18 @@ public final class PlateEdgesTest extends Edges {
         due("32 times 5 and 23", x.misprint(0, 0), 32 * 5 + 23);
     }
 
+    static void promise32SixLinesOfOneAreNotTheNexts() {
+        RainbowPlate x = Make.bright();
+        x.element(false);
+        for (int n = 0; n < 6; n++) {
+            x.line(0, 5670, 1);
+        }
+        x.line(1, 2345, 1);
+        readingAt(x, 2435);
+        due("of element 0", x.misprint(0, 0), -1);
+        due("of element 1", x.misprint(0, 1), 0);
+    }
+
     static void promise32TheFirstLineThenTheFirstReading() {
         RainbowPlate x = Make.bright();
         x.line(0, 5555, 1);
@@ -406,6 +444,19 @@ public final class PlateEdgesTest extends Edges {
         RainbowPlate x = Make.lawless();
         x.reading(0, 200, false, 1, 1);
         due("with itself", x.alike(0, 0), 0);
+    }
+
+    static void promise33ReadingsOfTheFirstOnly() {
+        RainbowPlate x = new RainbowPlate();
+        for (int n = 0; n < 3; n++) {
+            x.plate(1, 1, 1000, 9999, 0);
+            x.reading(n, 100 * n, false, 1, 1);
+        }
+        // all laws hold, so that all spans have numbers in common
+        due("0 by 1", x.alike(0, 1), 1);
+        due("1 by 2", x.alike(1, 2), 2);
+        due("2 by 0", x.alike(2, 0), 4);
+        due("1 by itself", x.alike(1, 1), 2);
     }
 
     static void promise33TheLastReading() {

@@ -230,6 +230,30 @@ public final class SetEdgesTest extends Edges {
         due("another alone, of less bits", x.sets(0, 1), 4);
     }
 
+    static void promise24EachTimeAnew() {
+        RainbowPlate x = Make.bright();
+        x.plate(9, 5, 1000, 9999, 0);
+        x.line(0, 2000, 1);
+        x.reading(0, 200, false, 1, 1);
+        dueSets("one", x, 1, 1, 1, 1);
+        x.reading(0, 300, false, 1, 1);
+        dueSets("none any more", x, 0, -1, 0, 0);
+        x.away();
+        dueSets("one again", x, 1, 1, 1, 1);
+        due("and of another plate the empty one", x.sets(1, 0) * 10 + x.sets(1, 3), 10);
+    }
+
+    static void promise24SixLinesOfOneAreNotTheNexts() {
+        RainbowPlate x = Make.bright();
+        x.element(false);
+        x.reading(0, 200, false, 1, 1);
+        for (int n = 0; n < 6; n++) {
+            x.line(0, 2000, 1);
+        }
+        x.line(1, 3000, 1);
+        dueSets("element 0 alone", x, 1, 1, 1, 1);
+    }
+
     static void promise25SpeedFromMinus50To50() {
         RainbowPlate x = Make.faint();
         x.line(0, 2000, 1);
@@ -277,6 +301,16 @@ public final class SetEdgesTest extends Edges {
         x.reading(0, 211, false, 6, 1);
         x.reading(0, 212, false, 6, 1);
         due("the strong one and what is 12 from it", x.left(0, 0, 0), 1 + 4);
+    }
+
+    static void promise25AGhostWhoseCauseIsPutAwayIsLeft() {
+        RainbowPlate x = Make.exact();
+        x.plate(1, 1, 1000, 9999, 10);
+        x.reading(0, 210, false, 1, 1);
+        x.reading(0, 200, false, 7, 1);
+        due("a ghost", x.left(0, 0, 0), 2);
+        x.away();
+        due("none any more", x.left(0, 0, 0), 1);
     }
 
     static void promise26SpeedFromMinus50To50() {
@@ -412,6 +446,10 @@ public final class SetEdgesTest extends Edges {
         due("greatest where all fit", x.amount(0, 1, 0, true), 9);
         dueAmounts(5, 1, 1, 2);
         dueAmounts(5, 9, 8, 9);
+        // 9: 1 3 5 7 9 9, then 9 less 2, 4, 6
+        dueAmounts(9, 1, 1, 1);
+        // 4: 0 0 2 3 4 4 5 6 7
+        dueAmounts(4, 8, 9, 9);
     }
 
     static void promise28None() {

@@ -249,6 +249,8 @@ public final class TableEdgesTest extends Edges {
         for (int what = 0; what <= 8; what++) {
             due("what " + what, x.look(0, what), due[what]);
         }
+        x.reading(0, 0, false, 1, 1);
+        due("turned up", x.look(1, 2), 0);
     }
 
     static void promise19WithoutASpan() {
