@@ -13,8 +13,10 @@ import java.util.Random;
  * throw are made, must answer alike.
  */
 public final class FuzzTest {
-    private static final int RUNS = 400;
-    private static final int CALLS = 512;
+    private static final int RUNS = 1200;
+    private static final Checks.Maker[] BEGINS = {Make::fresh, Make::rich, Make::full};
+    /** With those that make the object, those of texts and those that compare, no object gets more than 512. */
+    private static final int[] CALLS = {160, 130, 80};
     private static final int[] NUMBERS = {Integer.MIN_VALUE, -1001, -51, -50, -9, -2, -1, 0, 0, 0, 1, 1, 1, 2, 2, 3, 4, 5, 5, 6, 7,
         9, 10, 24, 25, 49, 50, 51, 63, 64, 99, 100, 400, 401, 499, 500, 501, 998, 999, 1000, 1000, 1001, 1200, 1201, 2000, 5000,
         9999, 10000, 65536, Integer.MAX_VALUE};
@@ -23,13 +25,15 @@ public final class FuzzTest {
         "+", "or", "and", "0", "1", "5", "6", "9999", "10000", " ", "x", "\u00FF", "\u0000"};
 
     private final Random random;
-    private final RainbowPlate x = new RainbowPlate();
-    private final RainbowPlate twin = new RainbowPlate();
+    private final RainbowPlate x;
+    private final RainbowPlate twin;
     private final String name;
     private final List<Method> face = new ArrayList<>();
 
     private FuzzTest(int run) {
         random = new Random(run);
+        x = BEGINS[run % BEGINS.length].make();
+        twin = BEGINS[run % BEGINS.length].make();
         name = "run " + run + " ";
         for (Method method : RainbowPlate.class.getDeclaredMethods()) {
             if (Modifier.isPublic(method.getModifiers())) {
@@ -43,7 +47,7 @@ public final class FuzzTest {
     public static void main(String[] args) throws Exception {
         for (int run = 0; run < RUNS; run++) {
             FuzzTest test = new FuzzTest(run);
-            for (int n = 0; n < CALLS; n++) {
+            for (int n = 0; n < CALLS[run % CALLS.length]; n++) {
                 test.call();
             }
             test.compare();
@@ -106,7 +110,7 @@ public final class FuzzTest {
     private void compare() throws Exception {
         for (Method method : face) {
             if (!List.of("feed", "end", "claim", "image").contains(method.getName())) {
-                for (int n = 0; n < 6; n++) {
+                for (int n = 0; n < 3; n++) {
                     Object[] numbers = new Object[method.getParameterCount()];
                     for (int k = 0; k < numbers.length; k++) {
                         boolean flag = method.getParameterTypes()[k] == boolean.class;

@@ -1,9 +1,13 @@
 import java.util.List;
 import java.util.Random;
 
-/** Runs of calls, made by a fixed row of numbers, on the class and on Oracle: all answers must agree. */
+/**
+ * Runs of calls, made by a fixed row of numbers, on the class and on Oracle: all answers must agree. No object
+ * gets more than 512 calls, since what it answers then is free.
+ */
 public final class OracleTest {
-    private static final int RUNS = 120;
+    private static final int RUNS = 400;
+    private static final int ROUNDS = 3;
 
     private final Random random;
     private final RainbowPlate x = new RainbowPlate();
@@ -22,11 +26,13 @@ public final class OracleTest {
         for (int run = 0; run < RUNS; run++) {
             OracleTest test = new OracleTest(run);
             test.tune();
-            for (int round = 0; round < 3; round++) {
-                test.change(round);
-                test.askInstrument();
-                test.askPlates();
+            for (int round = 1; round < ROUNDS; round++) {
+                test.change();
+                test.askBriefly();
             }
+            test.change();
+            test.askInstrument();
+            test.askPlate();
         }
         allLaws();
         for (int run = 0; run < 60; run++) {
@@ -161,7 +167,7 @@ public final class OracleTest {
         due("known", x.known(place, down, wave, spark), o.knowns.size());
     }
 
-    private void change(int round) {
+    private void change() {
         if (maybe(4)) {
             turnScrew();
         }
@@ -287,6 +293,18 @@ public final class OracleTest {
         o.makers.add(recipe);
     }
 
+    /** What is worked out once and kept must be forgotten by the next change. */
+    private void askBriefly() {
+        int plate = from(0, o.plates.size() - 1);
+        int place = from(0, 999);
+        Oracle.Span span = o.spanAt(o.truly(place, false));
+        due("laws for now", x.laws(), o.laws().size());
+        due("greatest for now", x.span(place, false, true), span == null ? -99999 : span.high());
+        due("sets for now", x.sets(plate, 0), o.sets(plate, 0));
+        due("left for now", x.left(plate, 63, 0), o.left(plate, 63, 0));
+        due("drift for now", x.drift(plate, 1, true), o.drift(plate, 1, true));
+    }
+
     private void askInstrument() {
         int place = from(0, 999);
         boolean down = maybe(2);
@@ -323,23 +341,21 @@ public final class OracleTest {
         return maybe(6) ? random.nextInt() : from(0, 63);
     }
 
-    private void askPlates() {
-        for (int p = 0; p < o.plates.size(); p++) {
-            for (int what = 0; what < 4; what++) {
-                due("sets " + what, x.sets(p, what), o.sets(p, what));
-            }
-            int likelySet = o.sets(p, 1);
-            askSet(p, likelySet < 0 || maybe(3) ? someSet() : likelySet);
-            askSet(p, maybe(2) ? 0 : someSet());
-            askStars(p);
-            due("alike", x.alike(p, 0), o.alike(p, 0));
-            for (int e = 0; e < o.air.size(); e++) {
-                due("misprint", x.misprint(p, e), o.misprint(p, e));
-            }
-            for (Oracle.Line line : o.lines) {
-                due("must", x.must(p, line.element(), line.number()),
-                    o.must(o.plates.get(p), line.wave(), line.strength()));
-            }
+    private void askPlate() {
+        int p = from(0, o.plates.size() - 1);
+        for (int what = 0; what < 4; what++) {
+            due("sets " + what, x.sets(p, what), o.sets(p, what));
+        }
+        int likelySet = o.sets(p, 1);
+        askSet(p, likelySet < 0 || maybe(3) ? someSet() : likelySet);
+        askSet(p, maybe(2) ? 0 : someSet());
+        askStars(p);
+        due("alike", x.alike(p, 0), o.alike(p, 0));
+        for (int e = 0; e < o.air.size(); e++) {
+            due("misprint", x.misprint(p, e), o.misprint(p, e));
+        }
+        for (Oracle.Line line : o.lines) {
+            due("must", x.must(p, line.element(), line.number()), o.must(o.plates.get(p), line.wave(), line.strength()));
         }
         int first = someSet();
         int second = someSet();
